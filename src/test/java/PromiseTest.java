@@ -38,6 +38,8 @@ public final class PromiseTest {
         promise16RefusedChangesNothing();
         objectsAreApart();
         longChain();
+        manyRounds();
+        wholeStack();
         fullObject();
         System.out.println(wrong == 0 ? "all answers are as due" : wrong + " answers are not as due");
         if (wrong != 0) {
@@ -365,6 +367,12 @@ public final class PromiseTest {
         for (int l = 0; l < 6; l++) {
             due("10 no model, " + l, x.holds(l), N);
         }
+        EqualityLab y = withConstants(2);
+        y.atom(0, 1);
+        due("10 a way without atoms counts", y.holds(0), 2);
+        due("10 and for the opposite", y.holds(1), 2);
+        y.push(1);
+        due("10 it alone", y.holds(0), 0);
     }
 
     private static void promise11One() {
@@ -689,6 +697,42 @@ public final class PromiseTest {
         due("chains: pairs", y.classes(0), 8);
         due("chains: least of the last", y.least(15), 14);
         due("chains: why", y.why(14, 15), 1);
+    }
+
+    // Pairs p = q that each make F(p) = F(q), which is the next pair: the last terms are the first to join.
+    private static void manyRounds() {
+        EqualityLab x = withConstants(8);
+        for (int i = 8; i < 16; i++) {
+            due("rounds term", x.term(1, i - 8, 0), i);
+        }
+        x.atom(6, 7);
+        for (int i = 5; i >= 0; i--) {
+            x.atom(i, i + 10);
+        }
+        x.atom(8, 9);
+        for (int a = 0; a < 7; a++) {
+            due("rounds: not before all are there", x.why(8, 9), N);
+            due("rounds push", x.push(2 * a), a + 1);
+        }
+        due("rounds: least", x.least(9), 8);
+        due("rounds: why", x.why(9, 8), 127);
+        due("rounds: one", x.one(8, 9), 1);
+        due("rounds: classes", x.classes(0), 5);
+        due("rounds: model", x.model(0), 255);
+        due("rounds: models", x.models(), 1);
+        due("rounds: opposite", x.push(15), 8);
+        due("rounds: blame on all eight", x.blame(), 255);
+    }
+
+    private static void wholeStack() {
+        EqualityLab x = withConstants(9);
+        for (int a = 0; a < 8; a++) {
+            x.atom(a, a + 1);
+            x.push(2 * a);
+        }
+        due("whole stack: why by all eight", x.why(0, 8), 255);
+        due("whole stack: why by seven", x.why(8, 1), 254);
+        due("whole stack: least", x.least(8), 0);
     }
 
     private static void fullObject() {
