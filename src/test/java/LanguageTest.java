@@ -2,7 +2,11 @@ import com.sun.source.tree.AssertTree;
 import com.sun.source.tree.AssignmentTree;
 import com.sun.source.tree.ClassTree;
 import com.sun.source.tree.CompilationUnitTree;
+import com.sun.source.tree.CompoundAssignmentTree;
+import com.sun.source.tree.DoWhileLoopTree;
+import com.sun.source.tree.EnhancedForLoopTree;
 import com.sun.source.tree.ExpressionTree;
+import com.sun.source.tree.ForLoopTree;
 import com.sun.source.tree.IdentifierTree;
 import com.sun.source.tree.InstanceOfTree;
 import com.sun.source.tree.LambdaExpressionTree;
@@ -19,7 +23,9 @@ import com.sun.source.tree.ThrowTree;
 import com.sun.source.tree.Tree;
 import com.sun.source.tree.TryTree;
 import com.sun.source.tree.TypeCastTree;
+import com.sun.source.tree.UnaryTree;
 import com.sun.source.tree.VariableTree;
+import com.sun.source.tree.WhileLoopTree;
 import com.sun.source.util.JavacTask;
 import com.sun.source.util.TreeScanner;
 import java.io.File;
@@ -33,6 +39,8 @@ import java.util.HashSet;
 import java.util.Map;
 import java.util.Set;
 import java.util.TreeSet;
+import java.util.regex.Matcher;
+import java.util.regex.Pattern;
 import javax.lang.model.type.TypeKind;
 import javax.tools.JavaCompiler;
 import javax.tools.StandardJavaFileManager;
@@ -44,6 +52,9 @@ public final class LanguageTest {
     private static final String[] FACE = {
         "atom(int,int)", "blame()", "classes(int)", "clause(int,int,int)", "clear(int)", "holds(int)", "least(int)",
         "model(int)", "models()", "one(int,int)", "pop()", "push(int)", "term(int,int,int)", "why(int,int)"};
+    // From 0 on, by one, up to a bound, perhaps with an earlier end.
+    private static final Pattern COUNTING =
+        Pattern.compile("int (\\w+) = 0;? (?:\\w+ && )?\\1 < (\\w+) \\1\\+\\+;?");
     private static int wrong = 0;
 
     public static void main(String[] args) throws Exception {
@@ -106,15 +117,22 @@ public final class LanguageTest {
             int m = f.getModifiers();
             boolean constant = Modifier.isStatic(m);
             own += constant ? 0 : 1;
-            if (!Modifier.isPrivate(m) && !f.getName().equals("REFUSED") && !f.getName().equals("NONE")) {
-                fault("rule 1: field " + f.getName() + " can be seen");
-            }
             if (constant && !(Modifier.isFinal(m) && (f.getType() == int.class || f.getType() == long.class))) {
                 fault("rule 5: static field " + f.getName());
+            }
+            boolean isFace = f.getName().equals("REFUSED") || f.getName().equals("NONE");
+            if (isFace && (m != (Modifier.PUBLIC | Modifier.STATIC | Modifier.FINAL) || f.getType() != int.class)) {
+                fault("the constant " + f.getName() + " is not as the document says");
+            }
+            if (!isFace && !Modifier.isPrivate(m)) {
+                fault("rule 1: field " + f.getName() + " can be seen");
             }
             if (f.getType().isArray() && !Modifier.isFinal(m)) {
                 fault("rule 4: array field " + f.getName() + " can be assigned");
             }
+        }
+        if (EqualityLab.REFUSED != -1 || EqualityLab.NONE != -2) {
+            fault("the constants are " + EqualityLab.REFUSED + " and " + EqualityLab.NONE);
         }
         if (own > 40) {
             fault("rule 10: " + own + " fields");
@@ -224,6 +242,37 @@ public final class LanguageTest {
             return super.visitVariable(node, p);
         }
 
+        // The program needs no other loop than one that counts up to a bound, and there the end is easily seen.
+        @Override
+        public Void visitForLoop(ForLoopTree node, Void p) {
+            String head = node.getInitializer() + " " + node.getCondition() + " " + node.getUpdate();
+            Matcher counting = COUNTING.matcher(head);
+            if (!counting.matches()) {
+                fault("rule 8: the end of this loop is not seen: " + head);
+            } else {
+                new Keeper(counting.group(1), counting.group(2)).scan(node.getStatement(), null);
+            }
+            return super.visitForLoop(node, p);
+        }
+
+        @Override
+        public Void visitWhileLoop(WhileLoopTree node, Void p) {
+            fault("rule 8: a loop without a counter: " + node);
+            return super.visitWhileLoop(node, p);
+        }
+
+        @Override
+        public Void visitDoWhileLoop(DoWhileLoopTree node, Void p) {
+            fault("rule 8: a loop without a counter: " + node);
+            return super.visitDoWhileLoop(node, p);
+        }
+
+        @Override
+        public Void visitEnhancedForLoop(EnhancedForLoopTree node, Void p) {
+            fault("rule 8: a loop without a counter: " + node);
+            return super.visitEnhancedForLoop(node, p);
+        }
+
         @Override
         public Void visitNewArray(NewArrayTree node, Void p) {
             boolean constant = node.getDimensions().size() == 1
@@ -330,6 +379,42 @@ public final class LanguageTest {
         public Void visitMemberReference(MemberReferenceTree node, Void p) {
             fault("rule 6: " + node);
             return null;
+        }
+    }
+
+    /** Walks a loop's body, telling where its counter or its bound is changed. */
+    private static final class Keeper extends TreeScanner<Void, Void> {
+        private final Set<String> kept;
+
+        Keeper(String counter, String bound) {
+            kept = Set.of(counter, bound);
+        }
+
+        private void changed(Tree variable) {
+            if (kept.contains(variable.toString())) {
+                fault("rule 8: a loop changes its own " + variable);
+            }
+        }
+
+        @Override
+        public Void visitAssignment(AssignmentTree node, Void p) {
+            changed(node.getVariable());
+            return super.visitAssignment(node, p);
+        }
+
+        @Override
+        public Void visitCompoundAssignment(CompoundAssignmentTree node, Void p) {
+            changed(node.getVariable());
+            return super.visitCompoundAssignment(node, p);
+        }
+
+        @Override
+        public Void visitUnary(UnaryTree node, Void p) {
+            boolean step = node.getKind() != Tree.Kind.LOGICAL_COMPLEMENT && node.getKind() != Tree.Kind.UNARY_MINUS;
+            if (step) {
+                changed(node.getExpression());
+            }
+            return super.visitUnary(node, p);
         }
     }
 }

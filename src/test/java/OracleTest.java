@@ -1,17 +1,133 @@
 import java.util.ArrayList;
+import java.util.Arrays;
 import java.util.List;
+import java.util.Set;
+import java.util.TreeSet;
 
-// Long runs of made-up calls against a second program that takes the document's words literally.
+// Long runs of made-up calls, as many on each object as the document allows, against a second program that takes the
+// document's words literally. Several manners of calling, so that few things, full lists, and what is made again after
+// it was cleared are all seen; at the end, that the answers worth seeing did come.
 public final class OracleTest {
-    private static final int RUNS = 400;
+    private static final int RUNS = 90;
     private static final int CALLS = 512;
+    private static final String[] NAMES = {"term", "atom", "clause", "push", "pop", "clear", "models", "model", "holds", "one",
+        "classes", "least", "why", "blame"};
+    private static final int TERM = 0, ATOM = 1, CLAUSE = 2, PUSH = 3, POP = 4, CLEAR = 5, MODELS = 6, MODEL = 7, HOLDS = 8,
+        ONE = 9, CLASSES = 10, LEAST = 11, WHY = 12, BLAME = 13;
+
+    // Here most atoms link a term to the next one and lie on the stack in their order, so that what follows needs many.
+    private static final String LINKED = "linked";
+    private static final Manner[] MANNERS = {
+        new Manner("ordinary", 6, 10, 10, 5, 5, 4, 10, 4, 1, 5, 5, 5, 5, 5, 5, 5, 5),
+        new Manner("few things", 0, 5, 3, 4, 4, 3, 4, 3, 3, 3, 3, 3, 3, 3, 3, 3, 3),
+        new Manner("made again", 4, 12, 2, 14, 9, 7, 9, 2, 3, 4, 4, 4, 4, 4, 4, 4, 4),
+        new Manner("full", 16, 8, 40, 2, 12, 12, 20, 9, 1, 5, 5, 5, 5, 5, 5, 9, 9),
+        new Manner("many models", 9, 12, 12, 3, 10, 1, 3, 3, 1, 5, 9, 7, 9, 7, 5, 7, 5),
+        new Manner(LINKED, 7, 15, 3, 1, 20, 1, 24, 9, 2, 2, 2, 3, 5, 5, 9, 20, 14),
+    };
+
+    private static final List<Set<Integer>> SEEN = new ArrayList<>();
+    private static final Set<Integer> PLACES_OF_WHY = new TreeSet<>();
+    private static final Set<Integer> PLACES_OF_BLAME = new TreeSet<>();
     private static long seed = 1;
 
-    public static void main(String[] args) {
-        for (int run = 0; run < RUNS; run++) {
-            seed = 1000003L * (run + 1);
-            oneRun(run);
+    /** How often what is called: some terms at first, then by weight, in the order of NAMES. */
+    private static final class Manner {
+        final String name;
+        final int termsAtFirst;
+        final int wrongOneIn;
+        final int clearAllOneIn;
+        final int[] weights;
+        final int sum;
+
+        Manner(String name, int termsAtFirst, int wrongOneIn, int clearAllOneIn, int... weights) {
+            this.name = name;
+            this.termsAtFirst = termsAtFirst;
+            this.wrongOneIn = wrongOneIn;
+            this.clearAllOneIn = clearAllOneIn;
+            this.weights = weights;
+            this.sum = Arrays.stream(weights).sum();
         }
+
+        int method(int terms) {
+            if (terms < termsAtFirst && upTo(20) > 0) {
+                return TERM;
+            }
+            int left = upTo(sum);
+            int method = 0;
+            while (left >= weights[method]) {
+                left -= weights[method];
+                method++;
+            }
+            return method;
+        }
+
+        // A number that is there, or now and then one that is not.
+        int number(int count) {
+            int there = count == 0 ? 0 : upTo(count);
+            if (upTo(wrongOneIn) > 0) {
+                return there;
+            }
+            int[] wrong = {-1, -2, count, count + 1, there + 256, there + 65536, there - 65536, Integer.MAX_VALUE - there,
+                Integer.MIN_VALUE + there};
+            return wrong[upTo(wrong.length)];
+        }
+
+        int[] arguments(int method, int constants, Oracle o) {
+            int terms = o.terms.size();
+            int literals = 2 * o.atoms.size();
+            switch (method) {
+                case TERM: return new int[] {kind(terms, constants), number(terms), number(terms)};
+                case ATOM: return isLinked() && upTo(3) > 0 ? link(o.atoms.size(), terms) : twoNumbers(terms);
+                case CLAUSE: return new int[] {clauseLiteral(literals), clauseLiteral(literals), clauseLiteral(literals)};
+                case PUSH: return isLinked() && upTo(3) > 0 ? next(o.stack.size(), literals) : new int[] {number(literals)};
+                case HOLDS: return new int[] {number(literals)};
+                case CLEAR: return new int[] {upTo(clearAllOneIn) == 0 ? 0 : upTo(3) == 0 ? number(3) : 1 + upTo(2)};
+                case MODEL: return new int[] {number(o.models())};
+                case CLASSES: return new int[] {number(2)};
+                case LEAST: return new int[] {number(terms)};
+                case ONE: case WHY: return twoNumbers(terms);
+                default: return new int[0];
+            }
+        }
+
+        private boolean isLinked() {
+            return name.equals(LINKED);
+        }
+
+        private int[] link(int atoms, int terms) {
+            return terms == 0 ? new int[] {0, 0} : new int[] {atoms % terms, (atoms + 1) % terms};
+        }
+
+        private int[] next(int depth, int literals) {
+            int opposite = upTo(12) == 0 ? 1 : 0;
+            return new int[] {literals == 0 ? 0 : 2 * depth % literals + opposite};
+        }
+
+        private int[] twoNumbers(int count) {
+            return new int[] {number(count), number(count)};
+        }
+
+        private int kind(int terms, int constants) {
+            return upTo(12) == 0 ? number(4) : terms < constants ? 0 : 1 + upTo(3);
+        }
+
+        private int clauseLiteral(int literals) {
+            return upTo(3) == 0 ? -1 : number(literals);
+        }
+    }
+
+    public static void main(String[] args) {
+        for (int method = 0; method < NAMES.length; method++) {
+            SEEN.add(new TreeSet<>());
+        }
+        for (Manner manner : MANNERS) {
+            for (int run = 0; run < RUNS; run++) {
+                seed = 1000003L * (run + 1) + manner.sum;
+                oneRun(manner, run);
+            }
+        }
+        checkSeen();
         System.out.println("all answers are those of the oracle");
     }
 
@@ -21,147 +137,73 @@ public final class OracleTest {
         return (int) ((seed >>> 33) % bound);
     }
 
-    private static int near(int count) {
-        int pick = upTo(40);
-        if (pick == 0) {
-            return -1;
-        }
-        if (pick == 1) {
-            return count;
-        }
-        if (pick == 2) {
-            return Integer.MAX_VALUE - upTo(2);
-        }
-        if (pick == 3) {
-            return Integer.MIN_VALUE + upTo(2);
-        }
-        return count == 0 ? 0 : upTo(count);
-    }
-
-    private static int clauseLiteral(int count) {
-        return upTo(3) == 0 ? -1 : near(count);
-    }
-
-    private static void oneRun(int run) {
+    private static void oneRun(Manner manner, int run) {
         EqualityLab x = new EqualityLab();
         Oracle o = new Oracle();
-        StringBuilder log = new StringBuilder();
-        int constants = 1 + upTo(5);
+        StringBuilder log = new StringBuilder("run " + run + ", " + manner.name + "\n");
+        int constants = 1 + upTo(manner.isLinked() ? 12 : 5);
         for (int i = 0; i < CALLS; i++) {
-            int t = o.terms.size();
-            int l = 2 * o.atoms.size();
-            int call = pick(t);
-            int a = 0;
-            int b = 0;
-            int c = 0;
-            int got;
-            int want;
-            switch (call) {
-                case 0:
-                    a = upTo(30) == 0 ? near(4) : t < constants ? 0 : 1 + upTo(3);
-                    b = near(t);
-                    c = near(t);
-                    got = x.term(a, b, c);
-                    want = o.term(a, b, c);
-                    break;
-                case 1:
-                    a = near(t);
-                    b = near(t);
-                    got = x.atom(a, b);
-                    want = o.atom(a, b);
-                    break;
-                case 2:
-                    a = clauseLiteral(l);
-                    b = clauseLiteral(l);
-                    c = clauseLiteral(l);
-                    got = x.clause(a, b, c);
-                    want = o.clause(a, b, c);
-                    break;
-                case 3:
-                    a = near(l);
-                    got = x.push(a);
-                    want = o.push(a);
-                    break;
-                case 4:
-                    got = x.pop();
-                    want = o.pop();
-                    break;
-                case 5:
-                    a = upTo(4) == 0 ? near(3) : 1 + upTo(2);
-                    got = x.clear(a);
-                    want = o.clear(a);
-                    break;
-                case 6:
-                    got = x.models();
-                    want = o.models();
-                    break;
-                case 7:
-                    a = near(o.modelList().size());
-                    got = x.model(a);
-                    want = o.model(a);
-                    break;
-                case 8:
-                    a = near(l);
-                    got = x.holds(a);
-                    want = o.holds(a);
-                    break;
-                case 9:
-                    a = near(t);
-                    b = near(t);
-                    got = x.one(a, b);
-                    want = o.one(a, b);
-                    break;
-                case 10:
-                    a = near(2);
-                    got = x.classes(a);
-                    want = o.classes(a);
-                    break;
-                case 11:
-                    a = near(t);
-                    got = x.least(a);
-                    want = o.least(a);
-                    break;
-                case 12:
-                    a = near(t);
-                    b = near(t);
-                    got = x.why(a, b);
-                    want = o.why(a, b);
-                    break;
-                default:
-                    got = x.blame();
-                    want = o.blame();
-                    break;
-            }
-            log.append("call ").append(call).append(" (").append(a).append(", ").append(b).append(", ").append(c)
-                .append(") answered ").append(got).append('\n');
+            int method = manner.method(o.terms.size());
+            int[] c = manner.arguments(method, constants, o);
+            int got = answer(x, method, c);
+            int want = o.answer(method, c);
+            log.append(NAMES[method]).append(Arrays.toString(c)).append(" answered ").append(got).append('\n');
             if (got != want) {
-                System.out.println("run " + run + "\n" + log + "due is " + want);
+                System.out.println(log + "due is " + want);
+                System.exit(1);
+            }
+            note(method, got);
+        }
+    }
+
+    private static int answer(EqualityLab x, int method, int[] c) {
+        switch (method) {
+            case TERM: return x.term(c[0], c[1], c[2]);
+            case ATOM: return x.atom(c[0], c[1]);
+            case CLAUSE: return x.clause(c[0], c[1], c[2]);
+            case PUSH: return x.push(c[0]);
+            case POP: return x.pop();
+            case CLEAR: return x.clear(c[0]);
+            case MODELS: return x.models();
+            case MODEL: return x.model(c[0]);
+            case HOLDS: return x.holds(c[0]);
+            case ONE: return x.one(c[0], c[1]);
+            case CLASSES: return x.classes(c[0]);
+            case LEAST: return x.least(c[0]);
+            case WHY: return x.why(c[0], c[1]);
+            default: return x.blame();
+        }
+    }
+
+    private static void note(int method, int got) {
+        SEEN.get(method).add(got);
+        if (method == WHY && got >= 0) {
+            PLACES_OF_WHY.add(Integer.bitCount(got));
+        }
+        if (method == BLAME && got >= 0) {
+            PLACES_OF_BLAME.add(Integer.bitCount(got));
+        }
+    }
+
+    // Runs that never came to a limit, or never were without a model, would prove less than they seem to.
+    private static void checkSeen() {
+        int[][] worthSeeing = {
+            {-1, 0, 15}, {-1, 0, 7}, {-1, 0, 11}, {-1, 1, 8}, {-1, 0, 15}, {-1, 0, 8, 12, 16}, {0, 1, 2}, {-1, 0, 255},
+            {-2, -1, 0, 1, 2}, {-2, -1, 0, 1, 2}, {-2, -1, 0, 1, 16}, {-1, 0, 15}, {-2, -1, 0, 1, 128}, {-2, 1, 128}};
+        for (int method = 0; method < NAMES.length; method++) {
+            mustHave(SEEN.get(method), "answers of " + NAMES[method], worthSeeing[method]);
+        }
+        mustHave(PLACES_OF_WHY, "numbers of places of why", 0, 1, 2, 3, 4, 5, 6);
+        mustHave(PLACES_OF_BLAME, "numbers of places of blame", 1, 2, 3, 4, 5);
+    }
+
+    private static void mustHave(Set<Integer> seen, String what, int... values) {
+        for (int value : values) {
+            if (!seen.contains(value)) {
+                System.out.println("no run came to " + value + " among the " + what);
                 System.exit(1);
             }
         }
-    }
-
-    private static int pick(int terms) {
-        if (terms < 6 || (terms < 16 && upTo(12) == 0)) {
-            return 0;
-        }
-        int p = upTo(60);
-        if (p < 5) {
-            return 1;
-        }
-        if (p < 9) {
-            return 2;
-        }
-        if (p < 19) {
-            return 3;
-        }
-        if (p < 23) {
-            return 4;
-        }
-        if (p < 24) {
-            return 5;
-        }
-        return 6 + p % 8;
     }
 
     /** Holds every equality in a table and finds each answer by trying all sets. */
@@ -172,6 +214,25 @@ public final class OracleTest {
         final List<Integer> stack = new ArrayList<>();
         // What follows from a set of atoms, kept until terms or atoms change.
         private final boolean[][][] known = new boolean[256][][];
+
+        int answer(int method, int[] c) {
+            switch (method) {
+                case TERM: return term(c[0], c[1], c[2]);
+                case ATOM: return atom(c[0], c[1]);
+                case CLAUSE: return clause(c[0], c[1], c[2]);
+                case PUSH: return push(c[0]);
+                case POP: return pop();
+                case CLEAR: return clear(c[0]);
+                case MODELS: return models();
+                case MODEL: return model(c[0]);
+                case HOLDS: return holds(c[0]);
+                case ONE: return one(c[0], c[1]);
+                case CLASSES: return classes(c[0]);
+                case LEAST: return least(c[0]);
+                case WHY: return why(c[0], c[1]);
+                default: return blame();
+            }
+        }
 
         int term(int kind, int a, int b) {
             boolean parts = kind == 0 || (kind == 2 ? isTerm(a) && isTerm(b) : isTerm(a));

@@ -41,6 +41,7 @@ public final class PromiseTest {
         manyRounds();
         wholeStack();
         fullObject();
+        exampleOfTheReadme();
         System.out.println(wrong == 0 ? "all answers are as due" : wrong + " answers are not as due");
         if (wrong != 0) {
             System.exit(1);
@@ -756,5 +757,20 @@ public final class PromiseTest {
         }
         due("full: no model", x.models(), 0);
         due("full: no blame", x.blame(), N);
+    }
+
+    private static void exampleOfTheReadme() {
+        EqualityLab lab = new EqualityLab();
+        int a = lab.term(0, 0, 0);
+        int b = lab.term(0, 0, 0);
+        int fa = lab.term(1, a, 0);
+        int fb = lab.term(1, b, 0);
+        int same = lab.atom(a, b);
+        int images = lab.atom(fa, fb);
+        due("README models", lab.models(), 3);
+        due("README first push", lab.push(2 * same), 1);
+        due("README why", lab.why(fa, fb), 1);
+        due("README second push", lab.push(2 * images + 1), 2);
+        due("README blame", lab.blame(), 3);
     }
 }
